@@ -25,7 +25,6 @@ public final class SquirrelPool {
     private static final long HASH_START = 4363L;
     private static final int EXPONENT_OF_ONE = 1023;
     private static final int FRACTION_BITS = 52;
-    private static final double FRACTION_UNITS = 4503599627370496.0;
 
     private final State now;
     // What would be is tried on this one, and a course too, so that the pool stays as it is if it fails.
@@ -559,7 +558,7 @@ public final class SquirrelPool {
             scaled = scaled * 2.0;
             exponent--;
         }
-        long fraction = (long) ((scaled - 1.0) * FRACTION_UNITS);
+        long fraction = (long) ((scaled - 1.0) * (double) (1L << FRACTION_BITS));
         return (exponent << FRACTION_BITS) + fraction;
     }
 
@@ -1085,7 +1084,7 @@ public final class SquirrelPool {
 
         // ---- courses
 
-        /** Does what one part of a course tells; false, and nothing done, if the call that it stands for would throw. */
+        /** Does what one part of a course tells; false, and nothing is done, if the call it stands for would throw. */
         boolean follow(int kind, int first, int second) {
             int place = placeWith(first);
             switch (kind) {

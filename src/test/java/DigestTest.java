@@ -78,7 +78,8 @@ final class DigestTest {
             addAndOne(v, "queueOf", squirrel);
             add(v, "waitOf", squirrel);
         }
-        for (String name : "waiting most leastIdle ageLimit restLimit leaseLimit patience isLastFirst time opened".split(" ")) {
+        String settings = "waiting most leastIdle ageLimit restLimit leaseLimit patience isLastFirst time opened";
+        for (String name : settings.split(" ")) {
             add(v, name);
         }
         for (int cause = 0; cause < 5; cause++) {
@@ -115,7 +116,8 @@ final class DigestTest {
     /** The answer as a number; 0 for a call that throws. */
     private void add(List<Long> v, String name, int... arguments) {
         String answer = Caller.answer(pool, name, arguments);
-        v.add(answer.startsWith("!") || answer.equals("false") ? 0L : answer.equals("true") ? 1L : Long.parseLong(answer));
+        boolean isZero = answer.startsWith("!") || answer.equals("false");
+        v.add(isZero ? 0L : answer.equals("true") ? 1L : Long.parseLong(answer));
     }
 
     /** The answer and 1, together; 0 for a call that throws. */

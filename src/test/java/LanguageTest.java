@@ -18,6 +18,8 @@ final class LanguageTest {
         "\\bThread\\b", "\\bRandom\\b", "\\bMath\\.random", "\\bClass\\b", "[^\\x20-\\x7e]", "\\bvar\\b"};
     private static final String EXCEPTIONS = "IllegalStateException|IllegalArgumentException|IndexOutOfBoundsException";
 
+    private static final String CONSTANTS = "int|long|boolean|char|String|(int|long|char|byte)\\[\\]";
+
     private LanguageTest() {
     }
 
@@ -28,7 +30,8 @@ final class LanguageTest {
             checkLines(tally, lines, Pattern.compile(pattern));
         }
         checkLines(tally, lines, Pattern.compile("throw (?!new (" + EXCEPTIONS + ")\\(\"\"\\);$)"));
-        checkLines(tally, lines, Pattern.compile("^\\s+(private )?static (?!final )[^(]*$"));
+        String allowed = "final (" + CONSTANTS + ") |final class ";
+        checkLines(tally, lines, Pattern.compile("^\\s+(private )?static (?!" + allowed + ")[^(]*$"));
         checkLengths(tally, lines);
         checkCounts(tally, lines);
         tally.end();
