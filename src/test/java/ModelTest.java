@@ -1,17 +1,24 @@
+import java.util.ArrayList;
+import java.util.List;
 import java.util.Random;
 
 /** Random runs of calls, the same ones each time, on the program and on the model: all answers are to be the same. */
 final class ModelTest {
-    private static final int RUNS = 300;
-    private static final int CALLS = 512;
+    private static final int RUNS = 600;
+    private static final int STEPS_BETWEEN_VIEWS = 16;
+    // The questions of a view that are put to one object, and the calls behind which it is made, are not too many.
+    private static final int MOST_CALLS_BEFORE_VIEW = 320;
     private static final int MOST_FAILURES = 20;
 
     private final Tally tally;
     private final Random random;
     private final int run;
-    private final SquirrelPool pool = new SquirrelPool();
-    private final Model model = new Model();
-    private final StringBuilder told = new StringBuilder();
+    private final Object pool = new SquirrelPool();
+    private final Object model = new Model();
+    private final List<Call> calls = new ArrayList<>();
+    private int made;
+    // A digest takes a call, so that runs with fewer of them go farther.
+    private final int callsToDigest;
     // Runs differ in how crowded and how hasty they are.
     private final int squirrels;
     private final int ticks;
@@ -21,6 +28,7 @@ final class ModelTest {
         this.tally = tally;
         this.run = run;
         random = new Random(run);
+        callsToDigest = run % 2 == 0 ? 1 : 9;
         squirrels = new int[] {4, 10, 21}[run % 3];
         ticks = new int[] {3, 12, 101}[run / 3 % 3];
         limits = new int[] {6, 30, 1001}[run / 9 % 3];
@@ -37,15 +45,19 @@ final class ModelTest {
 
     private void go() {
         int before = tally.failures();
-        for (int i = 0; i < CALLS && tally.failures() == before; i++) {
+        for (int i = 0; mayCall() && tally.failures() == before; i++) {
             step();
-            if (i % 16 == 0) {
+            if (i % STEPS_BETWEEN_VIEWS == 0 && calls.size() <= MOST_CALLS_BEFORE_VIEW) {
                 compareViews();
             }
         }
         if (tally.failures() != before) {
-            System.out.println("run " + run + ":" + told);
+            System.out.println("run " + run + ": " + calls);
         }
+    }
+
+    private boolean mayCall() {
+        return made + 2 <= Call.MOST_CALLS;
     }
 
     private void step() {
@@ -146,19 +158,28 @@ final class ModelTest {
     }
 
     private void both(String name, int... arguments) {
-        String due = Caller.answerTo(model, name, arguments);
-        String got = Caller.answerTo(pool, name, arguments);
-        told.append('\n').append(due);
-        tally.check(due.equals(got), "run " + run + ": answered [" + got + "], due is [" + due + "]");
-        long dueDigest = model.digest();
-        long gotDigest = pool.digest();
-        tally.check(dueDigest == gotDigest, "run " + run + ": digest behind [" + due + "] is " + gotDigest
-                + ", due is " + dueDigest);
+        if (!mayCall()) {
+            return;
+        }
+        Call call = new Call(name, arguments);
+        calls.add(call);
+        compare(call);
+        if (calls.size() % callsToDigest == 0) {
+            compare(new Call("digest"));
+        }
+    }
+
+    private void compare(Call call) {
+        made++;
+        String due = call.on(model);
+        String got = call.on(pool);
+        tally.check(due.equals(got), "run " + run + ", call " + calls.size() + ": " + call + " answered [" + got
+                + "], due is [" + due + "]");
     }
 
     private void compareViews() {
-        String due = View.of(model);
-        String got = View.of(pool);
+        String due = View.of(() -> model);
+        String got = View.of(() -> Call.replay(SquirrelPool::new, calls));
         tally.check(due.equals(got), "run " + run + ": due against seen: " + View.difference(due, got));
     }
 }

@@ -1,3 +1,7 @@
+import java.util.ArrayList;
+import java.util.List;
+import java.util.function.Supplier;
+
 /** Tells all that can be seen of an object, wrong arguments too; none of these calls changes anything. */
 final class View {
     private static final String[] OF_NOTHING = {
@@ -10,44 +14,61 @@ final class View {
     private static final String[] OF_SQUIRRELS = {
         "has", "placeOf", "leaseLeft", "isWaiting", "waitOf", "queueOf", "ticksToServe"};
     private static final String[] OF_NUTS = {"wouldHit", "idleWith"};
+    private static final List<Call> QUESTIONS = questions();
+    // So many are put to one object, as an object is used for a few hundred calls at the most.
+    private static final int AT_ONCE = 180;
 
     private View() {
     }
 
-    static String of(Object object) {
+    /** The answers of objects that stand alike; the maker makes as many of them as are needed. */
+    static String of(Supplier<Object> maker) {
         StringBuilder text = new StringBuilder();
-        for (String name : OF_NOTHING) {
-            line(text, object, name);
-        }
-        for (String name : OF_PLACES) {
-            lines(text, object, name, 13);
-        }
-        for (String name : OF_SQUIRRELS) {
-            lines(text, object, name, 20);
-        }
-        for (String name : OF_NUTS) {
-            lines(text, object, name, 30);
-        }
-        lines(text, object, "waiterAt", 20);
-        lines(text, object, "closedFor", 5);
-        for (int place = -1; place <= 12; place++) {
-            for (int ago = -1; ago <= 4; ago++) {
-                line(text, object, "nutAt", place, ago);
+        Object object = null;
+        for (int i = 0; i < QUESTIONS.size(); i++) {
+            if (i % AT_ONCE == 0) {
+                object = maker.get();
             }
+            text.append(QUESTIONS.get(i)).append(" = ").append(QUESTIONS.get(i).on(object)).append('\n');
         }
         return text.toString();
     }
 
-    private static void lines(StringBuilder text, Object object, String name, int beyond) {
-        for (int argument = -1; argument <= beyond; argument++) {
-            line(text, object, name, argument);
-        }
-        line(text, object, name, Integer.MIN_VALUE);
-        line(text, object, name, Integer.MAX_VALUE);
+    /** The same, without what is no part of a saved state: the saved states, and what tells of the buffer. */
+    static String ofState(Supplier<Object> maker) {
+        return of(maker).replaceAll("(?m)^(savedStates|firstError|digest) = .*\\R", "");
     }
 
-    private static void line(StringBuilder text, Object object, String name, int... arguments) {
-        text.append(Caller.answerTo(object, name, arguments)).append('\n');
+    private static List<Call> questions() {
+        List<Call> all = new ArrayList<>();
+        for (String name : OF_NOTHING) {
+            all.add(new Call(name));
+        }
+        for (String name : OF_PLACES) {
+            addAll(all, name, 13);
+        }
+        for (String name : OF_SQUIRRELS) {
+            addAll(all, name, 20);
+        }
+        for (String name : OF_NUTS) {
+            addAll(all, name, 30);
+        }
+        addAll(all, "waiterAt", 20);
+        addAll(all, "closedFor", 5);
+        for (int place = -1; place <= 12; place++) {
+            for (int ago = -1; ago <= 4; ago++) {
+                all.add(new Call("nutAt", place, ago));
+            }
+        }
+        return all;
+    }
+
+    private static void addAll(List<Call> all, String name, int beyond) {
+        for (int argument = -1; argument <= beyond; argument++) {
+            all.add(new Call(name, argument));
+        }
+        all.add(new Call(name, Integer.MIN_VALUE));
+        all.add(new Call(name, Integer.MAX_VALUE));
     }
 
     /** The first line in which two views differ, of the one and of the other. */
